@@ -1,3 +1,8 @@
+/**
+ * A prover of what can happen in small programs over two registers x and y, each 0 to 15.
+ *
+ * <p>There are so few states that it goes through all of them, which makes its answers exact.
+ */
 public final class TrapProver {
     public static final int BAD_OP = -1;
     public static final int FULL = -2;

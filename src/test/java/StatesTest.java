@@ -98,6 +98,12 @@ public final class StatesTest {
             prover.patch(0, edge[0]);
             CHECK.due("traps(0) with INDEX " + edge[0], prover.traps(0), edge[1]);
         }
+        // States that trapped before a change are not counted when they are no longer possible.
+        prover.patch(0, 0);
+        CHECK.due("traps(0) before begin", prover.traps(0), 256);
+        prover.begin(0, 4, 6);
+        CHECK.due("traps(0) after begin", prover.traps(0), 48);
+        CHECK.due("traps(1) after begin", prover.traps(1), 0);
         // A state that traps is possible where it traps, and leads nowhere.
         TrapProver zero = Check.from(Check.program(Ops.DIV, 0, Ops.HALT, 0), 7, 0);
         CHECK.due("zero: states(0)", zero.states(0), 1);
@@ -107,7 +113,7 @@ public final class StatesTest {
 
     private static void soonestIsLeast() {
         TrapProver prover = Check.program(
-            Ops.JZ, 3, Ops.SETX, 0, Ops.SETY, 1, Ops.ADDC, 1, Ops.HALT, 0, Ops.JUMP, 0);
+            Ops.JZ, 3, Ops.SETX, 5, Ops.SETY, 1, Ops.ADDC, 1, Ops.HALT, 0, Ops.JUMP, 0);
         int[] due = {0, 1, 2, 1, 2, TrapProver.NEVER};
         for (int p = 0; p < due.length; p++) {
             CHECK.due("soonest(" + p + ")", prover.soonest(p), due[p]);
@@ -115,6 +121,11 @@ public final class StatesTest {
         prover.begin(0, 1, 15);
         CHECK.due("soonest(3) without x 0", prover.soonest(3), 3);
         CHECK.due("soonest(4) without x 0", prover.soonest(4), 4);
+        // The long way comes to the least x and y, the short way to greater ones.
+        TrapProver ways = Check.program(Ops.JLT, 3, Ops.SETX, 0, Ops.SETY, 0, Ops.HALT, 0);
+        CHECK.due("ways: soonest(3)", ways.soonest(3), 1);
+        ways.begin(1, 0, 0);
+        CHECK.due("ways: soonest(3) without the short one", ways.soonest(3), 3);
         // Coming back to instruction 0 does not count: every run is there at first.
         TrapProver loop = Check.program(Ops.JUMP, 1, Ops.JUMP, 0);
         CHECK.due("loop: soonest(0)", loop.soonest(0), 0);
