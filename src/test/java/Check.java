@@ -1,13 +1,24 @@
+import java.util.Map;
+
 /** Counts the answers of one test that are not the ones due, and tells each of them. */
 final class Check {
+    private String sentence = "";
+    private int lookedInSentence = 0;
     private int looked = 0;
     private int wrong = 0;
 
+    /** The checks that follow are about this sentence of the document. */
+    void sentence(String text) {
+        endSentence();
+        sentence = text;
+        lookedInSentence = 0;
+    }
+
     void due(String call, long got, long want) {
         looked++;
+        lookedInSentence++;
         if (got != want) {
-            wrong++;
-            System.out.println(call + " answered " + got + ", due is " + want);
+            tell(call + " answered " + got + ", due is " + want);
         }
     }
 
@@ -15,11 +26,30 @@ final class Check {
         due(call, got ? 1 : 0, want ? 1 : 0);
     }
 
+    /** Each call of want must have the same answer in got. */
+    void same(String when, Map<String, Long> got, Map<String, Long> want) {
+        due(when + ": calls", got.size(), want.size());
+        want.forEach((call, answer) -> due(when + ": " + call, got.get(call), answer));
+    }
+
     void end() {
+        endSentence();
         System.out.println(looked + " answers looked at, " + wrong + " not as due");
         if (wrong != 0 || looked == 0) {
             System.exit(1);
         }
+    }
+
+    // A test that looks at nothing would pass whatever the program does.
+    private void endSentence() {
+        if (!sentence.isEmpty() && lookedInSentence == 0) {
+            tell("no answer was looked at");
+        }
+    }
+
+    private void tell(String what) {
+        wrong++;
+        System.out.println((sentence.isEmpty() ? "" : "[" + sentence + "] ") + what);
     }
 
     /** A new prover whose program is the given pairs of op and c. */
@@ -31,10 +61,27 @@ final class Check {
         return prover;
     }
 
+    /** A new prover whose program is the same instruction, so many times. */
+    static TrapProver repeated(int count, int op, int c) {
+        TrapProver prover = new TrapProver();
+        for (int p = 0; p < count; p++) {
+            prover.emit(op, c);
+        }
+        return prover;
+    }
+
     /** Lets runs begin with this one x and this one y alone. */
     static TrapProver from(TrapProver prover, int x, int y) {
         prover.begin(0, x, x);
         prover.begin(1, y, y);
+        return prover;
+    }
+
+    /** Runs of it trap, end and never end, so that most changes to it would show. */
+    static TrapProver mixed() {
+        TrapProver prover = program(Ops.READ, 5, Ops.DIV, -6, Ops.JZ, 0, Ops.INDEX, 3);
+        prover.begin(0, 2, 14);
+        prover.begin(1, 1, 13);
         return prover;
     }
 }

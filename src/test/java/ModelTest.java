@@ -1,7 +1,10 @@
 /** All promises: many runs of mixed calls, each answer held against the one of the model. */
 public final class ModelTest {
     private static final int RUNS = 400;
-    private static final int CALLS = 60;
+    private static final int CALLS = 80;
+    // Some runs go as far as an object is used.
+    private static final int LONG_RUN_EVERY = 25;
+    private static final int MOST_CALLS = 512;
     private static final int[] ODD_NUMBERS = {
         -1, -3, 16, 17, 31, 32, 100, Integer.MAX_VALUE, Integer.MIN_VALUE,
     };
@@ -31,11 +34,9 @@ public final class ModelTest {
         for (int p = 0; p < length; p++) {
             emit(run, prover, model, below(15));
         }
-        if (below(2) == 0) {
-            begin(run, prover, model);
-        }
-        for (int call = 0; call < CALLS; call++) {
-            if (below(5) == 0) {
+        int calls = run % LONG_RUN_EVERY == 0 ? MOST_CALLS : CALLS;
+        for (int call = length; call < calls; call++) {
+            if (below(4) == 0) {
                 change(run, prover, model);
             } else {
                 ask(run, prover, model);
@@ -64,22 +65,23 @@ public final class ModelTest {
         CHECK.due(call, prover.begin(register, low, high), model.begin(register, low, high));
     }
 
+    private static void patch(int run, TrapProver prover, Model model) {
+        int p = place();
+        int c = number();
+        CHECK.due(run + ": patch(" + p + ", " + c + ")", prover.patch(p, c), model.patch(p, c));
+    }
+
     private static void change(int run, TrapProver prover, Model model) {
-        switch (below(8)) {
-            case 0, 1 -> emit(run, prover, model, below(19) - 2);
-            case 2, 3, 4 -> {
-                int p = place();
-                int c = number();
-                String call = run + ": patch(" + p + ", " + c + ")";
-                CHECK.due(call, prover.patch(p, c), model.patch(p, c));
-            }
-            case 5, 6 -> begin(run, prover, model);
-            default -> {
-                if (below(6) == 0) {
-                    prover.clear();
-                    model.clear();
-                }
-            }
+        int kind = below(48);
+        if (kind < 14) {
+            emit(run, prover, model, below(19) - 2);
+        } else if (kind < 32) {
+            patch(run, prover, model);
+        } else if (kind < 47) {
+            begin(run, prover, model);
+        } else {
+            prover.clear();
+            model.clear();
         }
     }
 
