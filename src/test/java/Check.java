@@ -14,6 +14,18 @@ final class Check {
         lookedInSentence = 0;
     }
 
+    /** Runs each test, also if one before it threw, and ends. */
+    void each(Runnable... tests) {
+        for (Runnable test : tests) {
+            try {
+                test.run();
+            } catch (RuntimeException thrown) {
+                tell("threw " + thrown + " at " + thrown.getStackTrace()[0]);
+            }
+        }
+        end();
+    }
+
     void due(String call, long got, long want) {
         looked++;
         lookedInSentence++;

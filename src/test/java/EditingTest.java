@@ -8,26 +8,17 @@ public final class EditingTest {
     private static final Check CHECK = new Check();
 
     public static void main(String[] args) {
-        newHasNoInstructions();
-        newBeginsWithAll();
-        emitAppends();
-        emitTakesAnyNumber();
-        emitRefusesOps();
-        emitRefusesWhenFull();
-        emitAnswersItsNumber();
-        patchGivesAnotherNumber();
-        patchRefusesPlaces();
-        patchAnswersTheOldNumber();
-        beginSetsX();
-        beginSetsY();
-        beginRefusesRegisters();
-        beginRefusesLowBelowZero();
-        beginRefusesLowAboveHigh();
-        beginRefusesHighAboveFifteen();
-        beginAnswersZero();
-        clearDropsAll();
-        clearKeepsRanges();
-        CHECK.end();
+        CHECK.each(
+            EditingTest::newHasNoInstructions, EditingTest::newBeginsWithAll,
+            EditingTest::emitAppends, EditingTest::emitTakesAnyNumber,
+            EditingTest::emitRefusesOps, EditingTest::emitRefusesWhenFull,
+            EditingTest::emitAnswersItsNumber, EditingTest::patchGivesAnotherNumber,
+            EditingTest::patchRefusesPlaces, EditingTest::patchAnswersTheOldNumber,
+            EditingTest::beginSetsX, EditingTest::beginSetsY,
+            EditingTest::beginRefusesRegisters, EditingTest::beginRefusesLowBelowZero,
+            EditingTest::beginRefusesLowAboveHigh, EditingTest::beginRefusesHighAboveFifteen,
+            EditingTest::beginAnswersZero, EditingTest::clearDropsAll,
+            EditingTest::clearKeepsRanges);
     }
 
     private static TrapProver full() {
@@ -145,6 +136,14 @@ public final class EditingTest {
         CHECK.due("canEnd after patch(2, 0)", prover.canEnd(), true);
         CHECK.due("canRunForever after patch(2, 0)", prover.canRunForever(), false);
         CHECK.due("no instruction more", prover.emit(Ops.HALT, 0), 3);
+        // The whole number counts: no part of 16 or 256 is a place here, as 0 would be.
+        TrapProver jump = Check.program(Ops.JUMP, 0);
+        for (int c : new int[] {16, 256, 65536, MIN}) {
+            CHECK.due("canEnd before patch(0, " + c + ")", jump.canEnd(), false);
+            jump.patch(0, c);
+            CHECK.due("canEnd after patch(0, " + c + ")", jump.canEnd(), true);
+            jump.patch(0, 0);
+        }
         TrapProver last = Check.repeated(16, Ops.SETX, 1);
         CHECK.due("patch(15, 4)", last.patch(15, 4), 1);
         CHECK.due("c of 14", last.patch(14, 1), 1);

@@ -14,17 +14,12 @@ public final class LimitsTest {
     private static final Check CHECK = new Check();
 
     public static void main(String[] args) {
-        badOpBeforeFull();
-        badPlaceBeforeNever();
-        noInstructionsNoEnd();
-        noInstructionsSafe();
-        fiveHundredAndTwelveEmits();
-        fiveHundredAndTwelvePatches();
-        fiveHundredAndTwelveRanges();
-        fiveHundredAndTwelveRefusals();
-        fiveHundredAndTwelveQuestions();
-        noCallThrows();
-        CHECK.end();
+        CHECK.each(
+            LimitsTest::badOpBeforeFull, LimitsTest::badPlaceBeforeNever,
+            LimitsTest::noInstructionsNoEnd, LimitsTest::noInstructionsSafe,
+            LimitsTest::fiveHundredAndTwelveEmits, LimitsTest::fiveHundredAndTwelvePatches,
+            LimitsTest::fiveHundredAndTwelveRanges, LimitsTest::fiveHundredAndTwelveRefusals,
+            LimitsTest::fiveHundredAndTwelveQuestions, LimitsTest::noCallThrows);
     }
 
     private static void badOpBeforeFull() {
@@ -128,6 +123,8 @@ public final class LimitsTest {
             CHECK.due("call " + call + ": values", prover.values(0, call % 2), mask);
             CHECK.due("call " + call + ": safe", prover.safe(), true);
         }
+        // x from 10 since call 506, y from 13 since call 509.
+        CHECK.due("call 512: states(0)", prover.states(0), 6 * 3);
     }
 
     private static void fiveHundredAndTwelveRefusals() {

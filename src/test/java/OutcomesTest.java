@@ -6,20 +6,14 @@ public final class OutcomesTest {
     private static final Check CHECK = new Check();
 
     public static void main(String[] args) {
-        safeIfNoRunTraps();
-        notSafeIfOneRunTraps();
-        canEndInEachWay();
-        canEndIfOneRunDoes();
-        trapIsNoEnd();
-        canRunForeverInLoops();
-        canRunForeverIfOneRunDoes();
-        loopThatIsLeftIsNone();
-        readChoosesFreely();
-        endlessFromNoneToAll();
-        endlessCountsTheWayToALoop();
-        endlessCountsPossibleStatesAlone();
-        changesAreSeen();
-        CHECK.end();
+        CHECK.each(
+            OutcomesTest::safeIfNoRunTraps, OutcomesTest::notSafeIfOneRunTraps,
+            OutcomesTest::canEndInEachWay, OutcomesTest::canEndIfOneRunDoes,
+            OutcomesTest::trapIsNoEnd, OutcomesTest::canRunForeverInLoops,
+            OutcomesTest::canRunForeverIfOneRunDoes, OutcomesTest::loopThatIsLeftIsNone,
+            OutcomesTest::readChoosesFreely, OutcomesTest::endlessFromNoneToAll,
+            OutcomesTest::endlessCountsTheWayToALoop,
+            OutcomesTest::endlessCountsPossibleStatesAlone, OutcomesTest::changesAreSeen);
     }
 
     private static void outcomes(

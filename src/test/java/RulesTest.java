@@ -38,7 +38,7 @@ public final class RulesTest {
         Tree.Kind.THROW, Tree.Kind.TRY, Tree.Kind.CATCH, Tree.Kind.SYNCHRONIZED, Tree.Kind.ASSERT,
         Tree.Kind.INSTANCE_OF, Tree.Kind.LAMBDA_EXPRESSION, Tree.Kind.MEMBER_REFERENCE,
         Tree.Kind.NEW_CLASS, Tree.Kind.NULL_LITERAL, Tree.Kind.STRING_LITERAL,
-        Tree.Kind.FLOAT_LITERAL, Tree.Kind.DOUBLE_LITERAL, Tree.Kind.ENHANCED_FOR_LOOP,
+        Tree.Kind.FLOAT_LITERAL, Tree.Kind.DOUBLE_LITERAL,
         Tree.Kind.ANNOTATION, Tree.Kind.ENUM, Tree.Kind.INTERFACE, Tree.Kind.RECORD);
 
     private static final Check CHECK = new Check();

@@ -6,24 +6,16 @@ public final class StatesTest {
     private static final Check CHECK = new Check();
 
     public static void main(String[] args) {
-        statesAreCounted();
-        statesFromNoneToAll();
-        possibleTellsStatesApart();
-        possibleRefusesX();
-        possibleRefusesY();
-        valuesAreMasks();
-        valuesFromNoneToAll();
-        valuesRefusesRegisters();
-        valuesLooksAtThePlaceFirst();
-        trapsAreCounted();
-        trapsFromNoneToAll();
-        trapsOfPossibleStatesAlone();
-        soonestIsZeroAtZero();
-        soonestIsLeast();
-        soonestOfALongRun();
-        soonestRefusesPlaces();
-        soonestIsNever();
-        CHECK.end();
+        CHECK.each(
+            StatesTest::statesAreCounted, StatesTest::statesFromNoneToAll,
+            StatesTest::possibleTellsStatesApart, StatesTest::possibleRefusesX,
+            StatesTest::possibleRefusesY, StatesTest::valuesAreMasks,
+            StatesTest::valuesFromNoneToAll, StatesTest::valuesRefusesRegisters,
+            StatesTest::valuesLooksAtThePlaceFirst, StatesTest::trapsAreCounted,
+            StatesTest::trapsFromNoneToAll, StatesTest::trapsOfPossibleStatesAlone,
+            StatesTest::soonestIsZeroAtZero, StatesTest::soonestIsLeast,
+            StatesTest::soonestOfALongRun, StatesTest::soonestRefusesPlaces,
+            StatesTest::soonestIsNever);
     }
 
     private static void statesAreCounted() {

@@ -12,24 +12,11 @@ public final class TableTest {
     private static final Check CHECK = new Check();
 
     public static void main(String[] args) {
-        setx();
-        sety();
-        addc();
-        add();
-        sub();
-        mul();
-        divTraps();
-        divRoundsDown();
-        swap();
-        index();
-        read();
-        jump();
-        jeq();
-        jlt();
-        jz();
-        halt();
-        numbersWithoutMeaning();
-        CHECK.end();
+        CHECK.each(
+            TableTest::setx, TableTest::sety, TableTest::addc, TableTest::add, TableTest::sub,
+            TableTest::mul, TableTest::divTraps, TableTest::divRoundsDown, TableTest::swap,
+            TableTest::index, TableTest::read, TableTest::jump, TableTest::jeq, TableTest::jlt,
+            TableTest::jz, TableTest::halt, TableTest::numbersWithoutMeaning);
     }
 
     private static void setx() {

@@ -8,20 +8,14 @@ public final class TermsTest {
     private static final Check CHECK = new Check();
 
     public static void main(String[] args) {
-        atMostSixteen();
-        numberedFromZero();
-        goesOnAtTheNextNumber();
-        endsPastTheLast();
-        endsAtAPlaceOutside();
-        endsWhereAnInstructionWas();
-        trapEndsTheRun();
-        runsBeginInTheRanges();
-        possibleIfSomeRunComes();
-        noInstructionsNoState();
-        questionsChangeNothing();
-        badPlaces();
-        badPlacesAreFalse();
-        CHECK.end();
+        CHECK.each(
+            TermsTest::atMostSixteen, TermsTest::numberedFromZero,
+            TermsTest::goesOnAtTheNextNumber, TermsTest::endsPastTheLast,
+            TermsTest::endsAtAPlaceOutside, TermsTest::endsWhereAnInstructionWas,
+            TermsTest::trapEndsTheRun, TermsTest::runsBeginInTheRanges,
+            TermsTest::possibleIfSomeRunComes, TermsTest::noInstructionsNoState,
+            TermsTest::questionsChangeNothing, TermsTest::badPlaces,
+            TermsTest::badPlacesAreFalse);
     }
 
     private static void atMostSixteen() {
@@ -36,7 +30,8 @@ public final class TermsTest {
 
     private static void numberedFromZero() {
         CHECK.sentence("INSTRUCTIONS, numbered from 0");
-        TrapProver prover = Check.program(Ops.SETX, 3);
+        TrapProver prover = new TrapProver();
+        CHECK.due("the first emit", prover.emit(Ops.SETX, 3), 0);
         CHECK.due("states(0)", prover.states(0), 256);
         CHECK.due("states(1)", prover.states(1), TrapProver.BAD_PLACE);
         CHECK.due("states(-1)", prover.states(-1), TrapProver.BAD_PLACE);
@@ -173,12 +168,14 @@ public final class TermsTest {
         TrapProver narrow = new TrapProver();
         narrow.begin(0, 0, 0);
         noState("new with a range", narrow);
-        TrapProver cleared = Check.program(Ops.JUMP, 0);
-        CHECK.due("before clear", cleared.endless(), 256);
-        cleared.clear();
-        noState("cleared", cleared);
-        cleared.emit(Ops.JUMP, 0);
-        CHECK.due("with one again", cleared.states(0), 256);
+        for (int op : new int[] {Ops.JUMP, Ops.INDEX, Ops.HALT}) {
+            TrapProver cleared = Check.program(op, 0);
+            CHECK.due("before clear", cleared.states(0), 256);
+            cleared.clear();
+            noState("cleared", cleared);
+            cleared.emit(op, 0);
+            CHECK.due("with one again", cleared.states(0), 256);
+        }
     }
 
     private static void noState(String name, TrapProver prover) {
@@ -188,39 +185,51 @@ public final class TermsTest {
         }
         CHECK.due(name + ": endless", prover.endless(), 0);
         CHECK.due(name + ": canRunForever", prover.canRunForever(), false);
+        // A state would trap or end there, if there were one.
+        CHECK.due(name + ": safe", prover.safe(), true);
+        CHECK.due(name + ": canEnd", prover.canEnd(), false);
     }
 
+    /** Holds each call after each question against the same call on an object never asked. */
     private static void questionsChangeNothing() {
         CHECK.sentence("The calls below change nothing that any call answers");
         for (int question = 0; question < 9; question++) {
-            TrapProver asked = Check.mixed();
-            for (int p : new int[] {0, 3, 4, -1, MIN, MAX}) {
-                ask(asked, question, p, p);
-                ask(asked, question, p, 1);
+            for (int then = 0; then < 11; then++) {
+                for (int p = 0; p < 4; p++) {
+                    TrapProver asked = Check.mixed();
+                    for (int place : new int[] {0, 1, 2, 3, 4, -1, MIN, MAX}) {
+                        call(asked, question, place, 1);
+                        call(asked, question, place, place);
+                    }
+                    String name = "call " + then + " at " + p + " after question " + question;
+                    CHECK.due(name, call(asked, then, p, 1), call(Check.mixed(), then, p, 1));
+                }
             }
-            Map<String, Long> want = Answers.ofAll(Check.mixed());
-            CHECK.same("after question " + question, Answers.ofAll(asked), want);
         }
         TrapProver twice = Check.mixed();
         Map<String, Long> first = Answers.ofQuestions(twice);
         CHECK.same("all asked again", Answers.ofQuestions(twice), first);
         TrapProver empty = new TrapProver();
         Answers.ofQuestions(empty);
-        CHECK.same("none written", Answers.ofAll(empty), Answers.ofAll(new TrapProver()));
+        CHECK.due("none written: emit", empty.emit(Ops.HALT, 0), 0);
+        CHECK.due("none written: states", empty.states(0), 256);
     }
 
-    private static void ask(TrapProver prover, int question, int p, int other) {
-        switch (question) {
+    /** Kinds 0 to 8 are the questions. */
+    private static long call(TrapProver prover, int kind, int p, int other) {
+        return switch (kind) {
             case 0 -> prover.states(p);
-            case 1 -> prover.possible(p, other, other);
+            case 1 -> prover.possible(p, other, other) ? 1 : 0;
             case 2 -> prover.values(p, other);
             case 3 -> prover.traps(p);
-            case 4 -> prover.safe();
+            case 4 -> prover.safe() ? 1 : 0;
             case 5 -> prover.soonest(p);
-            case 6 -> prover.canEnd();
-            case 7 -> prover.canRunForever();
-            default -> prover.endless();
-        }
+            case 6 -> prover.canEnd() ? 1 : 0;
+            case 7 -> prover.canRunForever() ? 1 : 0;
+            case 8 -> prover.endless();
+            case 9 -> prover.patch(p, other);
+            default -> prover.emit(p, other);
+        };
     }
 
     private static void badPlaces() {
