@@ -53,6 +53,7 @@ public final class TrapProver {
     private int possibleCount;
     private final int[] stepsTo = new int[ALL_STATES];
     private final int[] firstNext = new int[ALL_STATES];
+    private final int[] nextCount = new int[ALL_STATES];
     private final boolean[] goesOn = new boolean[ALL_STATES];
     private int endlessCount;
 
@@ -69,10 +70,10 @@ public final class TrapProver {
         if (op < SETX || op > HALT) {
             return BAD_OP;
         }
-        if (length >= MOST_INSTRUCTIONS) {
+        int p = length;
+        if (!isPlace(p)) {
             return FULL;
         }
-        int p = length;
         ops[p] = op;
         numbers[p] = c;
         length = p + 1;
@@ -117,8 +118,8 @@ public final class TrapProver {
         explore();
         int first = stateNumber(p, 0, 0);
         int count = 0;
-        for (int i = 0; i < STATES_AT_A_PLACE; i++) {
-            if (isPossible(first + i)) {
+        for (int state = first; state < first + STATES_AT_A_PLACE; state++) {
+            if (isPossible(state)) {
                 count++;
             }
         }
@@ -144,9 +145,9 @@ public final class TrapProver {
         explore();
         int first = stateNumber(p, 0, 0);
         int mask = 0;
-        for (int i = 0; i < STATES_AT_A_PLACE; i++) {
-            if (isPossible(first + i)) {
-                int value = register == 0 ? xOf(first + i) : yOf(first + i);
+        for (int state = first; state < first + STATES_AT_A_PLACE; state++) {
+            if (isPossible(state)) {
+                int value = register == 0 ? xOf(state) : yOf(state);
                 mask |= 1 << value;
             }
         }
@@ -160,8 +161,8 @@ public final class TrapProver {
         explore();
         int first = stateNumber(p, 0, 0);
         int count = 0;
-        for (int i = 0; i < STATES_AT_A_PLACE; i++) {
-            if (isPossible(first + i) && firstNext[first + i] == TRAPS) {
+        for (int state = first; state < first + STATES_AT_A_PLACE; state++) {
+            if (isPossibleWithNext(state, TRAPS)) {
                 count++;
             }
         }
@@ -180,10 +181,9 @@ public final class TrapProver {
         explore();
         int first = stateNumber(p, 0, 0);
         int least = NEVER;
-        for (int i = 0; i < STATES_AT_A_PLACE; i++) {
-            int steps = stepsTo[first + i];
-            if (steps != NEVER && (least == NEVER || steps < least)) {
-                least = steps;
+        for (int state = first; state < first + STATES_AT_A_PLACE; state++) {
+            if (isPossible(state) && (least == NEVER || stepsTo[state] < least)) {
+                least = stepsTo[state];
             }
         }
         return least;
@@ -204,8 +204,12 @@ public final class TrapProver {
         return endlessCount;
     }
 
+    private static boolean isPlace(int p) {
+        return p >= 0 && p < MOST_INSTRUCTIONS;
+    }
+
     private boolean isInstruction(int p) {
-        return p >= 0 && p < length;
+        return isPlace(p) && p < length;
     }
 
     private static boolean isRegister(int register) {
@@ -214,6 +218,10 @@ public final class TrapProver {
 
     private static boolean isValue(int value) {
         return value >= 0 && value <= GREATEST_VALUE;
+    }
+
+    private static boolean isState(int state) {
+        return state >= 0 && state < ALL_STATES;
     }
 
     private static int stateNumber(int p, int x, int y) {
@@ -233,12 +241,16 @@ public final class TrapProver {
     }
 
     private boolean isPossible(int state) {
-        return stepsTo[state] != NEVER;
+        return isState(state) && stepsTo[state] != NEVER;
+    }
+
+    private boolean isPossibleWithNext(int state, int outcome) {
+        return isPossible(state) && firstNext[state] == outcome;
     }
 
     private boolean somePossibleStateHasNext(int outcome) {
-        for (int i = 0; i < possibleCount; i++) {
-            if (firstNext[order[i]] == outcome) {
+        for (int state = 0; state < ALL_STATES; state++) {
+            if (isPossibleWithNext(state, outcome)) {
                 return true;
             }
         }
@@ -250,7 +262,8 @@ public final class TrapProver {
         if (explored) {
             return;
         }
-        forgetStates();
+        findNextStates();
+        forgetPossibleStates();
         if (length > 0) {
             reachBeginnings();
         }
@@ -259,7 +272,15 @@ public final class TrapProver {
         explored = true;
     }
 
-    private void forgetStates() {
+    private void findNextStates() {
+        for (int state = 0; state < ALL_STATES; state++) {
+            int next = firstStateAfter(state);
+            firstNext[state] = next;
+            nextCount[state] = isState(next) ? choicesAt(state) : 0;
+        }
+    }
+
+    private void forgetPossibleStates() {
         possibleCount = 0;
         for (int state = 0; state < ALL_STATES; state++) {
             stepsTo[state] = NEVER;
@@ -267,12 +288,18 @@ public final class TrapProver {
     }
 
     private void reachBeginnings() {
-        for (int x = leastX; x <= greatestX; x++) {
-            for (int y = leastY; y <= greatestY; y++) {
-                int state = stateNumber(0, x, y);
-                reach(state, 0);
+        for (int x = 0; x < REGISTER_VALUES; x++) {
+            for (int y = 0; y < REGISTER_VALUES; y++) {
+                if (mayBeginWith(x, y)) {
+                    int state = stateNumber(0, x, y);
+                    reach(state, 0);
+                }
             }
         }
+    }
+
+    private boolean mayBeginWith(int x, int y) {
+        return x >= leastX && x <= greatestX && y >= leastY && y <= greatestY;
     }
 
     // Takes the states in the order in which they were reached, so that the first way found to
@@ -280,40 +307,41 @@ public final class TrapProver {
     private void followRuns() {
         for (int i = 0; i < ALL_STATES && i < possibleCount; i++) {
             int state = order[i];
-            int next = firstStateAfter(state);
-            firstNext[state] = next;
-            if (next >= 0) {
-                int choices = choicesAt(state);
-                for (int k = 0; k < choices; k++) {
-                    reach(next + k, stepsTo[state] + 1);
+            if (isPossible(state)) {
+                int steps = stepsTo[state] + 1;
+                for (int k = 0; k < REGISTER_VALUES && k < nextCount[state]; k++) {
+                    reach(firstNext[state] + k, steps);
                 }
             }
         }
     }
 
+    // There is always room in order, since no state is reached twice; it is looked at all the
+    // same, so that no index here hangs on what the other methods do.
     private void reach(int state, int steps) {
-        if (isPossible(state)) {
+        int position = possibleCount;
+        if (!isState(state) || isPossible(state) || position < 0 || position >= ALL_STATES) {
             return;
         }
         stepsTo[state] = steps;
-        order[possibleCount] = state;
-        possibleCount++;
+        order[position] = state;
+        possibleCount = position + 1;
     }
 
     // A state keeps goesOn if one of its next states keeps it; what is left when a round drops
     // none can be run through forever. Each round before the last drops at least one state.
     // The rounds go backwards because most states are reached before the ones after them.
     private void dropStatesThatMustEnd() {
-        for (int i = 0; i < possibleCount; i++) {
-            goesOn[order[i]] = true;
+        for (int state = 0; state < ALL_STATES; state++) {
+            goesOn[state] = isPossible(state);
         }
         endlessCount = possibleCount;
         boolean dropped = true;
         for (int round = 0; round <= ALL_STATES && dropped; round++) {
             dropped = false;
-            for (int i = possibleCount - 1; i >= 0; i--) {
+            for (int i = possibleCount - 1; i >= 0 && i < ALL_STATES; i--) {
                 int state = order[i];
-                if (goesOn[state] && !hasNextThatGoesOn(state)) {
+                if (stillGoesOn(state) && !hasNextThatGoesOn(state)) {
                     goesOn[state] = false;
                     endlessCount--;
                     dropped = true;
@@ -322,14 +350,16 @@ public final class TrapProver {
         }
     }
 
+    private boolean stillGoesOn(int state) {
+        return isState(state) && goesOn[state];
+    }
+
     private boolean hasNextThatGoesOn(int state) {
-        int next = firstNext[state];
-        if (next < 0) {
+        if (!isState(state)) {
             return false;
         }
-        int choices = choicesAt(state);
-        for (int k = 0; k < choices; k++) {
-            if (goesOn[next + k]) {
+        for (int k = 0; k < REGISTER_VALUES && k < nextCount[state]; k++) {
+            if (stillGoesOn(firstNext[state] + k)) {
                 return true;
             }
         }
@@ -340,11 +370,14 @@ public final class TrapProver {
     // other from the first one, where y is 0.
     private int choicesAt(int state) {
         int p = placeOf(state);
-        return ops[p] == READ ? REGISTER_VALUES : 1;
+        return isInstruction(p) && ops[p] == READ ? REGISTER_VALUES : 1;
     }
 
     private int firstStateAfter(int state) {
         int p = placeOf(state);
+        if (!isInstruction(p)) {
+            return ENDS;
+        }
         int x = xOf(state);
         int y = yOf(state);
         int op = ops[p];

@@ -2,10 +2,29 @@ import java.util.Map;
 
 /** Counts the answers of one test that are not the ones due, and tells each of them. */
 final class Check {
+    private static final int LONGEST_MILLISECONDS = 300_000;
+
     private String sentence = "";
     private int lookedInSentence = 0;
     private int looked = 0;
     private int wrong = 0;
+
+    Check() {
+        Thread watch = new Thread(this::failIfItGoesOn);
+        watch.setDaemon(true);
+        watch.start();
+    }
+
+    // A call that never answers must fail its test, not keep it waiting.
+    private void failIfItGoesOn() {
+        try {
+            Thread.sleep(LONGEST_MILLISECONDS);
+        } catch (InterruptedException stopped) {
+            return;
+        }
+        tell("goes on for too long");
+        Runtime.getRuntime().halt(1);
+    }
 
     /** The checks that follow are about this sentence of the document. */
     void sentence(String text) {

@@ -1,6 +1,10 @@
+import com.sun.source.tree.ArrayAccessTree;
 import com.sun.source.tree.ArrayTypeTree;
+import com.sun.source.tree.AssignmentTree;
+import com.sun.source.tree.BinaryTree;
 import com.sun.source.tree.ClassTree;
 import com.sun.source.tree.CompilationUnitTree;
+import com.sun.source.tree.CompoundAssignmentTree;
 import com.sun.source.tree.ExpressionTree;
 import com.sun.source.tree.ForLoopTree;
 import com.sun.source.tree.IdentifierTree;
@@ -41,8 +45,17 @@ public final class RulesTest {
         Tree.Kind.FLOAT_LITERAL, Tree.Kind.DOUBLE_LITERAL,
         Tree.Kind.ANNOTATION, Tree.Kind.ENUM, Tree.Kind.INTERFACE, Tree.Kind.RECORD);
 
+    private static final Set<Tree.Kind> COMPARISONS = Set.of(
+        Tree.Kind.LESS_THAN, Tree.Kind.LESS_THAN_EQUAL, Tree.Kind.GREATER_THAN,
+        Tree.Kind.GREATER_THAN_EQUAL, Tree.Kind.EQUAL_TO, Tree.Kind.NOT_EQUAL_TO);
+
+    private static final Set<Tree.Kind> DIVISIONS = Set.of(
+        Tree.Kind.DIVIDE, Tree.Kind.REMAINDER, Tree.Kind.DIVIDE_ASSIGNMENT,
+        Tree.Kind.REMAINDER_ASSIGNMENT);
+
     private static final Check CHECK = new Check();
     private static final Map<String, Set<String>> CALLS = new TreeMap<>();
+    private static final Set<String> TESTS = new TreeSet<>();
 
     private static CompilationUnitTree unit;
     private static SourcePositions positions;
@@ -54,6 +67,7 @@ public final class RulesTest {
         fields(theClass);
         methods(theClass);
         new Looker().scan(theClass, null);
+        indexesAndDivisors(theClass);
         depth();
         CHECK.end();
     }
@@ -127,10 +141,28 @@ public final class RulesTest {
                 holds(method, "seven parameters", method.getParameters().size() <= 7);
                 Set<String> called = new TreeSet<>();
                 new CallCollector().scan(method.getBody(), called);
-                holds(method, "a name of its own", CALLS.put(method.getName().toString(), called) == null);
+                String name = method.getName().toString();
+                holds(method, "a name of its own", CALLS.put(name, called) == null);
+                if (answersBoolean(method)) {
+                    TESTS.add(name);
+                }
             }
         }
         CHECK.sentence("Rules 2, 3, 4, 6, 8 and 10: what stands in the methods");
+    }
+
+    private static boolean answersBoolean(MethodTree method) {
+        return method.getReturnType() instanceof PrimitiveTypeTree type
+            && type.getPrimitiveTypeKind() == TypeKind.BOOLEAN;
+    }
+
+    private static void indexesAndDivisors(ClassTree theClass) {
+        CHECK.sentence("Rule 7: an index is looked at before it is used, a divisor before it divides");
+        for (Tree member : theClass.getMembers()) {
+            if (member instanceof MethodTree method) {
+                new LookedAt(theClass).scan(method.getBody(), null);
+            }
+        }
     }
 
     /** Goes down from each method; a call that comes back to a method above it never gets out. */
@@ -156,6 +188,82 @@ public final class RulesTest {
         public Void visitMethodInvocation(MethodInvocationTree call, Set<String> called) {
             called.add(call.getMethodSelect().toString());
             return super.visitMethodInvocation(call, called);
+        }
+    }
+
+    /** Follows one method's lines, and knows which names they have compared or tested so far. */
+    private static final class LookedAt extends TreeScanner<Void, Void> {
+        private final ClassTree theClass;
+        private final Set<String> names = new TreeSet<>();
+
+        LookedAt(ClassTree theClass) {
+            this.theClass = theClass;
+        }
+
+        private void look(Tree tree) {
+            if (tree instanceof IdentifierTree name) {
+                names.add(name.getName().toString());
+            }
+        }
+
+        private boolean isLookedAt(Tree tree) {
+            return tree instanceof IdentifierTree name && names.contains(name.getName().toString());
+        }
+
+        private void divides(Tree where, ExpressionTree divisor) {
+            if (DIVISIONS.contains(where.getKind())) {
+                boolean known = isConstant(divisor, theClass) || isLookedAt(divisor);
+                holds(where, "the divisor " + divisor + " is looked at", known);
+            }
+        }
+
+        @Override
+        public Void visitArrayAccess(ArrayAccessTree access, Void none) {
+            holds(access, "the index of " + access + " is looked at", isLookedAt(access.getIndex()));
+            return super.visitArrayAccess(access, none);
+        }
+
+        @Override
+        public Void visitBinary(BinaryTree binary, Void none) {
+            divides(binary, binary.getRightOperand());
+            super.visitBinary(binary, none);
+            if (COMPARISONS.contains(binary.getKind())) {
+                look(binary.getLeftOperand());
+                look(binary.getRightOperand());
+            }
+            return null;
+        }
+
+        @Override
+        public Void visitMethodInvocation(MethodInvocationTree call, Void none) {
+            super.visitMethodInvocation(call, none);
+            if (TESTS.contains(call.getMethodSelect().toString())) {
+                call.getArguments().forEach(this::look);
+            }
+            return null;
+        }
+
+        // A new value has not been looked at.
+        @Override
+        public Void visitVariable(VariableTree variable, Void none) {
+            super.visitVariable(variable, none);
+            names.remove(variable.getName().toString());
+            return null;
+        }
+
+        @Override
+        public Void visitAssignment(AssignmentTree assignment, Void none) {
+            super.visitAssignment(assignment, none);
+            names.remove(assignment.getVariable().toString());
+            return null;
+        }
+
+        @Override
+        public Void visitCompoundAssignment(CompoundAssignmentTree assignment, Void none) {
+            divides(assignment, assignment.getExpression());
+            super.visitCompoundAssignment(assignment, none);
+            names.remove(assignment.getVariable().toString());
+            return null;
         }
     }
 
